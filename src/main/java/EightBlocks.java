@@ -200,16 +200,16 @@ public final class EightBlocks {
                 buildChain(moves, 0);
                 return chain.orderFrom(0);
             case 1:
-                joinPoints(moves);
+                findOrbits(moves, Orbits.OF_POINTS);
                 return orbits.number();
             case 2:
-                joinWords(moves);
+                findOrbits(moves, Orbits.OF_WORDS);
                 return orbits.numberOfWeight(code.words, 8);
             case 3:
-                joinWords(moves);
+                findOrbits(moves, Orbits.OF_WORDS);
                 return orbits.numberOfWeight(code.words, 12);
             default:
-                joinRests(moves);
+                findOrbits(moves, Orbits.OF_RESTS);
                 return orbits.numberOfWeight(code.leaders, Golay.FARTHEST);
         }
     }
@@ -229,7 +229,7 @@ public final class EightBlocks {
                 return chain.orderFrom(Integer.bitCount(set));
             default:
                 buildChain(moves, 0);
-                joinWords(moves);
+                findOrbits(moves, Orbits.OF_WORDS);
                 return chain.orderFrom(0) / Math.max(1, orbits.sizeOf(Golay.place(set)));
         }
     }
@@ -485,29 +485,11 @@ public final class EightBlocks {
         }
     }
 
-    private void joinPoints(int moves) {
-        orbits.begin(POINTS);
+    private void findOrbits(int moves, int kind) {
+        orbits.begin(kind);
         for (int m = 0; m < FOUND; m++) {
             if ((moves >> m & 1) == 1) {
-                orbits.joinPoints(live.now.moves[m]);
-            }
-        }
-    }
-
-    private void joinWords(int moves) {
-        orbits.begin(Golay.WORDS);
-        for (int m = 0; m < FOUND; m++) {
-            if ((moves >> m & 1) == 1) {
-                orbits.joinWords(code, live.now.moves[m]);
-            }
-        }
-    }
-
-    private void joinRests(int moves) {
-        orbits.begin(Golay.WORDS);
-        for (int m = 0; m < FOUND; m++) {
-            if ((moves >> m & 1) == 1) {
-                orbits.joinRests(code, live.now.moves[m]);
+                orbits.joinBy(code, live.now.moves[m]);
             }
         }
     }
@@ -986,12 +968,11 @@ public final class EightBlocks {
         }
 
         private boolean isReached(int level, int q) {
-            return q >= 0 && q < POINTS && (reached[level] >> q & 1) == 1;
+            return !isOutside(q, POINTS) && (reached[level] >> q & 1) == 1;
         }
 
         private int[] back(int level, int q) {
-            int row = level * POINTS + q;
-            return row >= 0 && row < backs.length ? backs[row] : probe;
+            return backs[level * POINTS + q];
         }
 
         /** Adds a generator that is not in the level yet, and closes the level again. */
@@ -1016,6 +997,9 @@ public final class EightBlocks {
         /** Sees to it that an element of the group of a level is found in the level. */
         private void settle(int level, int[] move) {
             int q = Moves.to(move, base[level]);
+            if (isOutside(q, POINTS)) {
+                return;
+            }
             if (!isReached(level, q)) {
                 reach(level, q, move);
                 return;
@@ -1037,47 +1021,52 @@ public final class EightBlocks {
         }
     }
 
-    /** The orbits of a group on points, on words by their places, or on rests. */
+    /** The orbits of a group on points, on words by their places, or on rests: trees of parents. */
     private static final class Orbits {
+        static final int OF_POINTS = 0;
+        static final int OF_WORDS = 1;
+        static final int OF_RESTS = 2;
+
         private final int[] parents = new int[Golay.WORDS];
         private final int[] goals = new int[Golay.WORDS];
+        private int kind;
         private int size;
 
-        void begin(int items) {
-            size = Math.min(items, parents.length);
+        /** Starts with an orbit for each item. */
+        void begin(int ofKind) {
+            kind = ofKind;
+            size = kind == OF_POINTS ? POINTS : Golay.WORDS;
             for (int i = 0; i < size; i++) {
                 parents[i] = i;
             }
         }
 
-        void joinPoints(int[] move) {
-            for (int p = 0; p < size; p++) {
-                join(p, Moves.to(move, p));
+        /** Joins each item with the one to which a permutation sends it. */
+        void joinBy(Golay code, int[] move) {
+            if (kind == OF_POINTS) {
+                Moves.assign(goals, move);
+            } else {
+                fillGoals(code, move);
             }
-        }
-
-        void joinWords(Golay code, int[] move) {
-            for (int unit = 1; unit < size; unit *= 2) {
-                goals[unit] = Golay.place(Moves.imageOf(move, code.words[unit]));
+            for (int i = 0; i < size; i++) {
+                join(i, goals[i]);
             }
-            joinGoals();
-        }
-
-        void joinRests(Golay code, int[] move) {
-            for (int unit = 1; unit < size; unit *= 2) {
-                goals[unit] = code.rest(Moves.imageOf(move, unit));
-            }
-            joinGoals();
         }
 
         /** Places and rests go linearly, so where the powers of two go tells where all go. */
-        private void joinGoals() {
+        private void fillGoals(Golay code, int[] move) {
             goals[0] = 0;
             for (int i = 1; i < size; i++) {
                 int unit = i & -i;
-                goals[i] = goals[i ^ unit] ^ goals[unit];
-                join(i, goals[i]);
+                goals[i] = i == unit ? goalOf(code, move, unit) : goals[i ^ unit] ^ goals[unit];
             }
+        }
+
+        private int goalOf(Golay code, int[] move, int item) {
+            if (kind == OF_WORDS) {
+                return Golay.place(Moves.imageOf(move, code.words[item]));
+            }
+            return code.rest(Moves.imageOf(move, item));
         }
 
         private void join(int one, int other) {
