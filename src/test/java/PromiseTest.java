@@ -472,6 +472,11 @@ public final class PromiseTest {
         String full = "                                                                                                  a*";
         due("a full tape", full.length(), 100);
         dueError(full, 100);
+        String all = "(0,1,2,3,4,5,6,7,8,9,10,11,12,13,14,15,16,17,18,19,20,21,22,23";
+        dueError(all, all.length());
+        dueError(all + ",", all.length() + 1);
+        dueError(all + ", 5)", all.length() + 2);
+        dueError(all + "(", all.length());
     }
 
     private static void readNames() {
