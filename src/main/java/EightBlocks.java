@@ -374,6 +374,9 @@ public final class EightBlocks {
         for (int k = i; k < i + 2 * n; k += 2) {
             int from = sheets.pointAt(sheet, k);
             int to = sheets.pointAt(sheet, k + 1);
+            if (from == NONE || to == NONE) {
+                return NOT;
+            }
             if (wanted[from] != NONE && wanted[from] != to) {
                 return 0;
             }
@@ -888,6 +891,8 @@ public final class EightBlocks {
         private final int[][] generators = new int[POINTS * MOST_GENERATORS][POINTS];
         private final int[][] products = new int[POINTS][POINTS];
         private final int[] probe = new int[POINTS];
+        /** Stands for a row that is not there; no run comes to it. */
+        private final int[] stray = new int[POINTS];
 
         /** Starts with the identity alone; the base begins with the points of a set. */
         void begin(int first) {
@@ -972,7 +977,8 @@ public final class EightBlocks {
         }
 
         private int[] back(int level, int q) {
-            return backs[level * POINTS + q];
+            int row = level * POINTS + q;
+            return isOutside(row, backs.length) ? stray : backs[row];
         }
 
         /** Adds a generator that is not in the level yet, and closes the level again. */
@@ -1153,7 +1159,7 @@ public final class EightBlocks {
         }
 
         void keep() {
-            if (size >= LONGEST) {
+            if (isOutside(size, LONGEST)) {
                 forgetOldest();
             }
             kept[size].become(now);
@@ -1170,7 +1176,7 @@ public final class EightBlocks {
         }
 
         int takeBack() {
-            if (size < 1) {
+            if (size < 1 || size > LONGEST) {
                 return NONE;
             }
             size--;
@@ -1298,11 +1304,14 @@ public final class EightBlocks {
         }
 
         private boolean isFactor(int depth) {
-            if (!isPlainFactor(depth)) {
-                return false;
+            boolean isGood;
+            if (isNext('[')) {
+                isGood = depth < DEEPEST && isBracket(depth);
+            } else {
+                isGood = accept('(') ? isCycle(parts[depth]) : isName(parts[depth]);
             }
-            if (!accept('^')) {
-                return true;
+            if (!isGood || !accept('^')) {
+                return isGood;
             }
             boolean inverse = accept('-');
             int power = acceptPower();
@@ -1311,13 +1320,6 @@ public final class EightBlocks {
             }
             raise(parts[depth], power, inverse);
             return true;
-        }
-
-        private boolean isPlainFactor(int depth) {
-            if (isNext('[')) {
-                return depth < DEEPEST && isBracket(depth);
-            }
-            return accept('(') ? isCycle(parts[depth]) : isName(parts[depth]);
         }
 
         private boolean isBracket(int depth) {

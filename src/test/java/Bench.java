@@ -38,6 +38,15 @@ final class Bench {
         return row;
     }
 
+    int calls() {
+        return calls;
+    }
+
+    /** A new object if this one has few calls left: for many calls that do not depend on earlier ones. */
+    Bench renewed() {
+        return calls > MOST_CALLS - 50 ? new Bench() : this;
+    }
+
     private EightBlocks next() {
         calls++;
         if (calls > MOST_CALLS) {

@@ -13,14 +13,6 @@ final class Boundaries {
     /** Basis word 0. */
     static final int D = 16436384;
     static final int M24 = 244823040;
-    static final int BAD = -1;
-    static final int NOT = -2;
-    static final int FULL = -3;
-    static final int NONE = -4;
-    static final int NULL = -11;
-    static final int CAST = -12;
-    static final int INDEX = -13;
-    static final int SIZE = -14;
 
     interface Call {
         int on(Bench x);

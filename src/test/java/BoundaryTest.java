@@ -5,8 +5,14 @@ import java.util.Set;
  * wrap-around, a refused call. The sentences are looked up in the document, and one that has no test is reported.
  */
 public final class BoundaryTest {
-    /** The pieces that name no boundary: what a method does at all is tested with its boundaries, and in PromiseTest. */
+    /** The pieces that name no boundary; what they say is tested in PromiseTest. */
     private static final Set<String> WITHOUT = Set.of(
+        "A workbench for the extended binary Golay code and the permutations that preserve it (subgroups of the Mathieu "
+        + "group M24).",
+        "The class computes code words, octads and dodecads, distances to the code, Steiner completion, sextets, reads "
+        + "permutations from texts in cycle notation, computes orders, orbits and stabilizers of the groups that they "
+        + "generate, membership, and group elements with prescribed images, and the Steiner system S(5, 6, 12) within a "
+        + "dodecad.",
         "Returns a property of a set of points.", "`set`: the set", "Returns the property",
         "Returns a word, octad or dodecad.", "`k`: its number", "Returns the set",
         "Returns the octad that contains five points.", "`set`: a set of five points", "Returns the octad",

@@ -1,4 +1,5 @@
 import java.math.BigInteger;
+import java.util.Arrays;
 
 /** The small system, the changes, and promises 1 and 17 to 26: no changes, six and more, and what a change is. */
 final class ChangeBoundaries {
@@ -29,7 +30,8 @@ final class ChangeBoundaries {
     }
 
     private void newObject() {
-        b.promised(1, "Creates a workbench with the permutations told above, the random number 1, an empty tape and no sheets; "
+        b.promised(1, "Creates a workbench with the permutations told above, the random number 1, an empty tape and "
+            + "no sheets; "
             + "no change is kept, and nothing is saved.");
         Bench x = new Bench();
         String[] names = {"step", "twice", "over", "wild", "same"};
@@ -82,7 +84,8 @@ final class ChangeBoundaries {
     }
 
     private void changes() {
-        b.described("Each successful call of read() and choose(), and each turn of drift(), is a change, also if nothing "
+        b.described("Each successful call of read() and choose(), and each turn of drift(), is a change, also if "
+            + "nothing "
             + "becomes different.");
         Bench x = new Bench();
         b.due("read, nothing different", x.reads(0, "a"), 0);
@@ -123,7 +126,8 @@ final class ChangeBoundaries {
     }
 
     private void latestSix() {
-        b.described("The latest six changes are kept and can be undone one by one: the permutations 0 to 4, D and the random "
+        b.described("The latest six changes are kept and can be undone one by one: the permutations 0 to 4, D and "
+            + "the random "
             + "number become as they were before the change, whatever happened since.");
         for (int made = 0; made <= 8; made++) {
             Bench x = new Bench();
@@ -151,7 +155,7 @@ final class ChangeBoundaries {
         x.item(0, 0, 1, 1L);
         b.due("found", x.retrace(2 | 8 | 1, 0, 0, 0, 1) >= 0 ? 1 : 0, 1);
         b.due("undo", x.undo(), 0);
-        b.holds("all five are as before", java.util.Arrays.deepEquals(rows(x), rows));
+        b.holds("all five are as before", Arrays.deepEquals(rows(x), rows));
         b.due("the random number", x.seed(0), 77);
         b.due("the sheet stays", x.drop(0), 2);
         dueTurnsBack();
@@ -168,7 +172,7 @@ final class ChangeBoundaries {
                 if (turns > back) {
                     fewer.drift(turns - back);
                 }
-                b.holds("permutations of " + (turns - back), java.util.Arrays.deepEquals(rows(x), rows(fewer)));
+                b.holds("permutations of " + (turns - back), Arrays.deepEquals(rows(x), rows(fewer)));
                 b.due("D of " + (turns - back), x.count(0), fewer.count(0));
                 int random = x.seed(0);
                 x.seed(random);
@@ -225,7 +229,8 @@ final class ChangeBoundaries {
     }
 
     private void turn() {
-        b.promised(19, "Finds the hexads that are an octad together with two points outside of D, and returns the one of them "
+        b.promised(19, "Finds the hexads that are an octad together with two points outside of D, and returns the "
+            + "one of them "
             + "that contains the lowest point of D.");
         Bench x = new Bench();
         int[] outside = {0, 1, 2, 3, 4, 6, 8, 9, 12, 13, 16, 18};
@@ -300,7 +305,7 @@ final class ChangeBoundaries {
         }
         b.due("40 turns", one.drift(40), reference.count(0));
         b.due("40 turns by 40", one.seed(0), reference.seed(0));
-        b.holds("permutations", java.util.Arrays.deepEquals(rows(one), rows(reference)));
+        b.holds("permutations", Arrays.deepEquals(rows(one), rows(reference)));
         b.promised(21, "Makes n random turns.", "Returns D then");
         for (int n = 1; n <= 40; n++) {
             Bench x = new Bench();
@@ -313,7 +318,8 @@ final class ChangeBoundaries {
     }
 
     private void turnsOfDrift() {
-        b.promised(21, "In each of them the random number r becomes (r * 1103515245 + 12345) modulo 2 to the power of 31, "
+        b.promised(21, "In each of them the random number r becomes (r * 1103515245 + 12345) modulo 2 to the power "
+            + "of 31, "
             + "without overflow; let x be r / 65536 and y be x / 8, rounded down.");
         int[] seeds = {0, 1, 2, 3, 65535, 65536, 1 << 30, Boundaries.MAX - 1, Boundaries.MAX, 1103515245, 12345};
         for (int seed : seeds) {
@@ -331,10 +337,11 @@ final class ChangeBoundaries {
                 x.seed(before(y << 19 | low));
                 b.due("dodecad " + y, x.drift(1), x.block(2, y % 2576));
                 b.due("r", x.seed(0), y << 19 | low);
-                b.holds("no permutation", java.util.Arrays.deepEquals(rows(x), rows(new Bench())));
+                b.holds("no permutation", Arrays.deepEquals(rows(x), rows(new Bench())));
             }
         }
-        b.promised(21, "Otherwise permutation x modulo 4 becomes the one that first applies itself and then permutation y "
+        b.promised(21, "Otherwise permutation x modulo 4 becomes the one that first applies itself and then "
+            + "permutation y "
             + "modulo 5, both as they were before.");
         for (int x8 = 1; x8 < 8; x8++) {
             for (int y : new int[] {0, 1, 2, 3, 4, 5, 4091, 4095}) {
@@ -348,7 +355,7 @@ final class ChangeBoundaries {
                 due[x8 % 4] = first;
                 x.seed(before(y << 19 | x8 << 16 | 65535));
                 b.due("D stays", x.drift(1), D);
-                b.holds("x " + x8 + ", y " + y, java.util.Arrays.deepEquals(rows(x), due));
+                b.holds("x " + x8 + ", y " + y, Arrays.deepEquals(rows(x), due));
             }
         }
     }
@@ -398,7 +405,8 @@ final class ChangeBoundaries {
     }
 
     private void count() {
-        b.promised(24, "`what`: 0 D, as a set; 1 how many changes are kept; 2 the set of the permutations 0 to 4 that preserve "
+        b.promised(24, "`what`: 0 D, as a set; 1 how many changes are kept; 2 the set of the permutations 0 to 4 "
+            + "that preserve "
             + "the code (bit m for permutation m); 3 whether something is saved by image() (1 or 0)");
         Bench x = new Bench();
         int[] due = {D, 0, 31, 0};
@@ -439,7 +447,7 @@ final class ChangeBoundaries {
         x.undo();
         x.undo();
         b.due("restore()", x.restore(), 1);
-        b.holds("the permutations", java.util.Arrays.deepEquals(rows(x), rows));
+        b.holds("the permutations", Arrays.deepEquals(rows(x), rows));
         b.due("D", x.count(0), chosen);
         b.due("the random number", x.seed(1), 55);
         b.due("the changes", x.count(1), 6);
@@ -447,7 +455,7 @@ final class ChangeBoundaries {
         fewer.drift(9);
         for (int k = 5; k >= 0; k--) {
             b.due("undo()", x.undo(), k);
-            b.holds("the permutations of before", java.util.Arrays.deepEquals(rows(x), rows(fewer)));
+            b.holds("the permutations of before", Arrays.deepEquals(rows(x), rows(fewer)));
             fewer.undo();
         }
         b.promised(25, "What was saved before is lost.");
@@ -486,7 +494,7 @@ final class ChangeBoundaries {
             b.due("restore() " + k, x.restore(), 1);
             b.due("D", x.count(0), chosen);
             b.due("changes", x.count(1), 3);
-            b.holds("the permutations", java.util.Arrays.deepEquals(rows(x), rows));
+            b.holds("the permutations", Arrays.deepEquals(rows(x), rows));
             b.due("saved", x.count(3), 1);
             b.due("undo", x.undo(), 2);
         }

@@ -1,3 +1,5 @@
+import java.util.Arrays;
+
 /** The code, and promises 2 to 7: where sets, numbers and distances begin and end. */
 final class CodeBoundaries {
     private static final int[] NO_SETS = Boundaries.outside(0, Boundaries.ALL);
@@ -18,7 +20,7 @@ final class CodeBoundaries {
                 words[n] ^= (n >> k & 1) << 23;
             }
         }
-        int[] found = java.util.Arrays.stream(words).filter(w -> Integer.bitCount(w) == 8).sorted().toArray();
+        int[] found = Arrays.stream(words).filter(w -> Integer.bitCount(w) == 8).sorted().toArray();
         System.arraycopy(found, 0, octads, 0, 759);
     }
 
@@ -95,7 +97,7 @@ final class CodeBoundaries {
         int[] ends = {759, 2576};
         for (int what = 1; what <= 2; what++) {
             int points = 4 + 4 * what;
-            int[] due = java.util.Arrays.stream(words).filter(w -> Integer.bitCount(w) == points).sorted().toArray();
+            int[] due = Arrays.stream(words).filter(w -> Integer.bitCount(w) == points).sorted().toArray();
             b.due("how many there are", due.length, ends[what - 1]);
             Bench x = new Bench();
             for (int k = 0; k < due.length; k++) {
@@ -150,7 +152,7 @@ final class CodeBoundaries {
                 b.due("the lowest point of tetrad " + k + " of " + four, tetrad & -tetrad, free & -free);
                 b.due("four points", Integer.bitCount(tetrad), 4);
                 b.due("other points than before", tetrad & all, 0);
-                boolean isOctad = java.util.Arrays.binarySearch(octads, tetrad | four) >= 0;
+                boolean isOctad = Arrays.binarySearch(octads, tetrad | four) >= 0;
                 b.holds("itself or an octad together", tetrad == four || isOctad);
                 itself += tetrad == four ? 1 : 0;
                 all |= tetrad;
@@ -178,7 +180,7 @@ final class CodeBoundaries {
         for (int[] row : due) {
             Bench x = new Bench();
             for (int what = 0; what < 7; what++) {
-                int want = row[what + 1] == -5 ? java.util.Arrays.stream(words).boxed().toList().indexOf(row[0]) : row[what + 1];
+                int want = row[what + 1] == -5 ? numberOf(row[0]) : row[what + 1];
                 b.due("word(" + row[0] + ", " + what + ")", x.word(row[0], what), want);
             }
         }
@@ -189,6 +191,10 @@ final class CodeBoundaries {
         }
         b.dueForEach("word with what", Boundaries.outside(0, 6), -1, (x, w) -> x.word(0, w));
         b.dueForEach("word with what", Boundaries.outside(0, 6), -1, (x, w) -> x.word(-1, w));
+    }
+
+    private int numberOf(int word) {
+        return Arrays.stream(words).boxed().toList().indexOf(word);
     }
 
     private void block() {
@@ -220,7 +226,7 @@ final class CodeBoundaries {
         b.due("the lowest five points", new Bench().complete(31), LOWEST_OCTAD);
         int high = new Bench().complete(31 << 19);
         b.due("the highest five points", high & 31 << 19, 31 << 19);
-        b.holds("an octad", java.util.Arrays.binarySearch(octads, high) >= 0);
+        b.holds("an octad", Arrays.binarySearch(octads, high) >= 0);
     }
 
     private void sextet() {
@@ -237,7 +243,8 @@ final class CodeBoundaries {
     }
 
     private void both() {
-        b.promised(6, "Counts the octads each of which is the union of two tetrads of a set of four points, and also the "
+        b.promised(6, "Counts the octads each of which is the union of two tetrads of a set of four points, and also "
+            + "the "
             + "union of two tetrads of another one.");
         Bench x = new Bench();
         // Four of the points 0 to 4, 7, 10 and 12 of the lowest octad, and three of them with another point.
@@ -295,7 +302,7 @@ final class CodeBoundaries {
         for (int set : sets) {
             for (int k = 0; k <= 8; k++) {
                 int points = k;
-                long due = java.util.Arrays.stream(octads).filter(o -> Integer.bitCount(o & set) == points).count();
+                long due = Arrays.stream(octads).filter(o -> Integer.bitCount(o & set) == points).count();
                 b.due("met(" + set + ", " + k + ")", x.met(set, k), due);
             }
         }

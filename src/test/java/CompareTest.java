@@ -3,12 +3,13 @@ import java.util.Random;
 /** Random runs of calls, each answer compared with the one of the Reference. */
 public final class CompareTest {
     private static final int CALLS = 512;
+    /** A text of up to 103 characters is one act, in which calls make the set that it needs too. */
+    private static final int LONGEST_ACT = 110;
     private final Check check;
     private final Random random;
-    private final EightBlocks blocks = new EightBlocks();
+    private final Bench blocks = new Bench();
     private final Reference reference = new Reference();
     private final int run;
-    private int calls;
 
     private CompareTest(Check check, int run) {
         this.check = check;
@@ -22,16 +23,18 @@ public final class CompareTest {
         Check check = new Check("CompareTest");
         for (int run = first; run < first + runs; run++) {
             CompareTest test = new CompareTest(check, run);
-            while (test.calls < CALLS) {
+            while (test.blocks.calls() < CALLS - LONGEST_ACT) {
                 test.act(run % 6);
+            }
+            while (test.blocks.calls() <= CALLS - 2) {
+                test.actOnMoves();
             }
         }
         check.end();
     }
 
     private long due(String call, long got, long want) {
-        calls++;
-        check.due("run " + run + " call " + calls + ": " + call, got, want);
+        check.due("run " + run + " call " + blocks.calls() + ": " + call, got, want);
         return got;
     }
 
@@ -358,8 +361,9 @@ public final class CompareTest {
         }
         due("retrace(" + moves + ", " + sheet + ", " + lane + ", " + i + ", " + n + ")",
             blocks.retrace(moves, sheet, lane, i, n), reference.retrace(moves, sheet, lane, i, n));
+        int[] row = blocks.row(4);
         for (int p = 0; p < 24; p++) {
-            check.due("run " + run + " call " + calls + ": move(4, " + p + ")", blocks.move(4, p), reference.move(4, p));
+            due("move(4, " + p + ")", row[p], reference.move(4, p));
         }
     }
 }

@@ -18,9 +18,10 @@ final class Document {
         }
     }
 
-    /** The sentences under "Description", before the examples. */
+    /** What the document says of all methods: under "What it is", and under "Description" before the examples. */
     List<String> description() {
         List<String> sentences = new ArrayList<>();
+        addSentences(between("## What it is", "## The public face"), sentences);
         addSentences(between("## Description", "Examples: Each"), sentences);
         return sentences;
     }

@@ -14,6 +14,7 @@ final class ErrorBoundaries {
     }
 
     void test() {
+        lastCall();
         constants();
         badFirst();
         order();
@@ -104,8 +105,30 @@ final class ErrorBoundaries {
         }
     }
 
+    private void lastCall() {
+        b.described("An object is used for at most 512 calls after it has been made; what later calls answer is free.");
+        Boundaries.Call[] calls = {x -> x.group(15, 0), x -> x.held(15, Boundaries.D, 2), x -> x.type('['),
+            x -> x.read(0), x -> x.image(), x -> x.sheet(0, 3, 32), x -> x.undo(), x -> x.choose(ALL ^ x.count(0))};
+        int[] due = {Boundaries.M24, 95040, -3, -20, 1, 32, -4, Boundaries.D};
+        for (int k = 0; k < calls.length; k++) {
+            Bench x = new Bench();
+            // The last of these calls takes two.
+            while (x.calls() < (k == calls.length - 1 ? 508 : 511)) {
+                calls[k].on(x);
+            }
+            b.due("the last call of kind " + k, calls[k].on(x), due[k]);
+        }
+        Bench x = new Bench();
+        Reference y = new Reference();
+        for (int k = 0; k < 511; k++) {
+            b.due("drift " + k, x.drift(40), y.drift(40));
+        }
+        b.due("the last call", x.seed(0), y.seed(0));
+    }
+
     private void constants() {
-        b.described("A method reports an error by a negative return value: BAD (-1) an argument is out of range or names "
+        b.described("A method reports an error by a negative return value: BAD (-1) an argument is out of range or "
+            + "names "
             + "something that does not exist; NOT (-2) the call is not possible, as the method says; FULL (-3) a limit is "
             + "reached; NULL (-11) a sheet does not exist; CAST (-12) a sheet has another lane than is told, or two sheets "
             + "have different lanes; INDEX (-13) an index is out of bounds; SIZE (-14) a length is negative.");
@@ -127,7 +150,8 @@ final class ErrorBoundaries {
     }
 
     private void badFirst() {
-        b.described("BAD is checked before all others; then each method checks its errors in the order in which it lists them, "
+        b.described("BAD is checked before all others; then each method checks its errors in the order in which it "
+            + "lists them, "
             + "and returns the first that applies.");
         due("sextet(7, 6)", -1, x -> x.sextet(7, 6));
         due("sextet(7, -1)", -1, x -> x.sextet(7, -1));
@@ -167,7 +191,8 @@ final class ErrorBoundaries {
     }
 
     private void order() {
-        b.described("BAD is checked before all others; then each method checks its errors in the order in which it lists them, "
+        b.described("BAD is checked before all others; then each method checks its errors in the order in which it "
+            + "lists them, "
             + "and returns the first that applies.");
         due("no code, and no word: both are NOT", -2, x -> x.held(8, 1, 2));
         due("no four points, twice", -2, x -> x.both(7, 31));
@@ -179,7 +204,8 @@ final class ErrorBoundaries {
     }
 
     private void orderOfSheets() {
-        b.described("BAD is checked before all others; then each method checks its errors in the order in which it lists them, "
+        b.described("BAD is checked before all others; then each method checks its errors in the order in which it "
+            + "lists them, "
             + "and returns the first that applies.");
         due("film: NULL, INDEX", -11, x -> x.film(0, 3, 0, -1));
         due("film: CAST, INDEX", -12, x -> x.film(0, 0, 1, -1));
@@ -200,7 +226,8 @@ final class ErrorBoundaries {
     }
 
     private void orderOfRetrace() {
-        b.described("BAD is checked before all others; then each method checks its errors in the order in which it lists them, "
+        b.described("BAD is checked before all others; then each method checks its errors in the order in which it "
+            + "lists them, "
             + "and returns the first that applies.");
         due("BAD, NULL", -1, x -> x.retrace(16, 3, 0, 0, 1));
         due("BAD, NULL", -1, x -> x.retrace(0, 3, 4, 0, 1));

@@ -46,7 +46,8 @@ final class GroupBoundaries {
     }
 
     private void sets() {
-        b.described("In the methods with a set of permutations, bit m stands for permutation m, 0 to 3; the set is 0 to 15.");
+        b.described("In the methods with a set of permutations, bit m stands for permutation m, 0 to 3; the set is 0 "
+            + "to 15.");
         Reference reference = new Reference();
         for (int moves = 0; moves < 16; moves++) {
             Bench x = new Bench();
@@ -64,11 +65,12 @@ final class GroupBoundaries {
         b.dueForEach("held", outside, -1, (x, moves) -> x.held(moves, 0, 0));
         b.dueForEach("holds", outside, -1, (x, moves) -> x.holds(moves, 4));
         b.dueForEach("retrace", outside, -1, (x, moves) -> retrace(x, moves, 0, 0));
-        b.dueForEach("group with bits of higher value", new int[] {31, 1 << 31 | 1, 1 << 4}, -1, (x, moves) -> x.group(moves, 0));
+        b.dueForEach("higher bits", new int[] {31, 1 << 31 | 1, 1 << 4}, -1, (x, moves) -> x.group(moves, 0));
     }
 
     private void elements() {
-        b.described("The group of such permutations consists of all permutations that arise by applying these, as often as "
+        b.described("The group of such permutations consists of all permutations that arise by applying these, as "
+            + "often as "
             + "one likes and in any order, and of the identity.");
         Bench x = new Bench();
         b.due("no generators", x.group(0, 0), 1);
@@ -110,14 +112,14 @@ final class GroupBoundaries {
     }
 
     private void group() {
-        b.promised(14, "`what`: 0 its order; the number of its orbits on 1 the points, 2 the octads, 3 the dodecads, 4 the "
+        b.promised(14, "`what`: 0 its order; the number of its orbits on 1 the points, 2 the octads, 3 the dodecads, "
+            + "4 the "
             + "sextets");
         int[][] due = {{0, 1, 24, 759, 2576, 1771}, {1, 23, 2, 33, 112, 77}, {15, M24, 1, 1, 1, 1}, {3, 253, 2, 3, -9, 7}};
         for (int[] row : due) {
-            Bench x = new Bench();
             for (int what = 0; what < 5; what++) {
                 if (row[what + 1] != -9) {
-                    b.due("group(" + row[0] + ", " + what + ")", x.group(row[0], what), row[what + 1]);
+                    b.due("group(" + row[0] + ", " + what + ")", new Bench().group(row[0], what), row[what + 1]);
                 }
             }
         }
@@ -149,7 +151,8 @@ final class GroupBoundaries {
     }
 
     private void held() {
-        b.promised(15, "`what`: 0 the set of all points to which a point of the set can go by the group; 1 how many elements "
+        b.promised(15, "`what`: 0 the set of all points to which a point of the set can go by the group; 1 how many "
+            + "elements "
             + "of the group leave each point of the set where it is; 2 how many elements send the set to itself");
         Bench x = new Bench();
         int[][] due = {
@@ -174,7 +177,8 @@ final class GroupBoundaries {
         }
         b.dueForEach("what", Boundaries.outside(0, 2), -1, (x, what) -> x.held(0, 0, what));
         b.dueForEach("what, no word", Boundaries.outside(0, 2), -1, (x, what) -> x.held(0, 1, what));
-        b.promised(15, "NOT if one of these permutations does not preserve the code, or what is 2 and the set is not a word.");
+        b.promised(15, "NOT if one of these permutations does not preserve the code, or what is 2 and the set is not "
+            + "a word.");
         Bench x = new Bench();
         for (int set : new int[] {1, 15, 5279 ^ 1, D ^ 1 << 23, ALL ^ 1, 5279 ^ 3 << 22}) {
             b.due("no word", x.held(15, set, 2), -2);
@@ -187,9 +191,10 @@ final class GroupBoundaries {
         for (int what = 0; what < 3; what++) {
             b.due("no code and a word", x.held(1, 0, what), -2);
             b.due("no code and no word", x.held(3, 1, what), -2);
+            int of = what;
             b.dueForEach("no code and no set", Boundaries.outside(0, ALL), -1, (y, set) -> {
                 y.reads(0, "(0,1)");
-                return y.held(1, set, 0);
+                return y.held(1, set, of);
             });
         }
         b.due("without it", x.held(2, 0, 2), 11);
@@ -249,7 +254,8 @@ final class GroupBoundaries {
     }
 
     private void lowest() {
-        b.promised(27, "If there are any, permutation 4 becomes the one of them that sends point 0 to the lowest point, of "
+        b.promised(27, "If there are any, permutation 4 becomes the one of them that sends point 0 to the lowest "
+            + "point, of "
             + "several the one that does so with point 1, and so on.");
         Bench x = new Bench();
         b.due("step", retrace(x, 1, 5, 6), 1);
@@ -289,7 +295,8 @@ final class GroupBoundaries {
     }
 
     private void pairs() {
-        b.promised(27, "They are given by 2 * n elements of a sheet from index i on, n times a point and the point to which it "
+        b.promised(27, "They are given by 2 * n elements of a sheet from index i on, n times a point and the point "
+            + "to which it "
             + "is to go.", "INDEX if the elements are not all within the sheet");
         Bench x = bench(9, 4, 5, 23, 23, 99);
         b.due("from the second on", x.retrace(1, 0, 3, 1, 1), 1);
@@ -349,7 +356,8 @@ final class GroupBoundaries {
     }
 
     private void notPossible() {
-        b.promised(27, "NOT if one of the generating permutations does not preserve the code, or an element is not a point.");
+        b.promised(27, "NOT if one of the generating permutations does not preserve the code, or an element is not a "
+            + "point.");
         Bench x = new Bench();
         long[] values = {-1, 24, 255, 1L << 32, Long.MIN_VALUE, Long.MAX_VALUE, -(1L << 32), (1L << 32) + 5};
         for (long value : values) {

@@ -8,7 +8,7 @@ public final class GroupTest {
     private static final int M24 = 244823040;
     private final Check check;
     private final Random random;
-    private final EightBlocks blocks = new EightBlocks();
+    private final Bench blocks = new Bench();
     private final Reference reference = new Reference();
 
     private GroupTest(Check check, int run) {
@@ -18,7 +18,7 @@ public final class GroupTest {
 
     public static void main(String[] args) {
         Check check = new Check("GroupTest");
-        int runs = args.length > 0 ? Integer.parseInt(args[0]) : 60;
+        int runs = args.length > 0 ? Integer.parseInt(args[0]) : 120;
         for (int run = 0; run < runs; run++) {
             new GroupTest(check, run).compareSubgroups(run % 4);
         }
@@ -52,7 +52,7 @@ public final class GroupTest {
         check.due("read(" + m + ") of " + text, blocks.read(m), reference.read(m));
     }
 
-    private static String text(EightBlocks blocks, int m) {
+    private static String text(Bench blocks, int m) {
         StringBuilder text = new StringBuilder();
         for (int k = 0; blocks.letter(m, k) != EightBlocks.NONE; k++) {
             text.append((char) blocks.letter(m, k));
@@ -62,7 +62,7 @@ public final class GroupTest {
 
     /** The text of an element of M24 that sends the points of a set to points of the set in another order. */
     private String someElement(int set, int pairs) {
-        EightBlocks other = new EightBlocks();
+        Bench other = new Bench();
         int[] from = shuffled(set);
         int[] to = shuffled(set);
         other.sheet(0, 0, 32);
@@ -85,7 +85,7 @@ public final class GroupTest {
             read(m, element.length() < 95 && m != kind ? "[" + element + "]^" + (1 + random.nextInt(4)) : element);
         }
         int[] choices = {1, 2, 3, 4, 5, 6, 7, 8, 11, 13, 15};
-        for (int k = 0; k < 4; k++) {
+        for (int k = 0; k < 2; k++) {
             int moves = choices[random.nextInt(choices.length)];
             for (int what = 0; what < 5; what++) {
                 String call = "group(" + moves + ", " + what + ") kind " + kind;
@@ -117,13 +117,14 @@ public final class GroupTest {
         }
         check.due("retrace(" + moves + ", 0, 0, 0, " + pairs + ")",
             blocks.retrace(moves, 0, 0, 0, pairs), reference.retrace(moves, 0, 0, 0, pairs));
+        int[] row = blocks.row(4);
         for (int p = 0; p < 24; p++) {
-            check.due("move(4, " + p + ")", blocks.move(4, p), reference.move(4, p));
+            check.due("move(4, " + p + ")", row[p], reference.move(4, p));
         }
     }
 
     private static void knownOrders(Check check) {
-        EightBlocks blocks = new EightBlocks();
+        Bench blocks = new Bench();
         check.due("M24", blocks.group(15, 0), M24);
         check.due("M23", blocks.held(15, 1 << 9, 1), 10200960);
         check.due("M22", blocks.held(15, 1 << 9 | 1 << 23, 1), 443520);
@@ -140,7 +141,7 @@ public final class GroupTest {
 
     /** The elements that send a point somewhere are those that send it to one of all points. */
     private static void orderOfSum(Check check) {
-        EightBlocks blocks = new EightBlocks();
+        Bench blocks = new Bench();
         blocks.sheet(0, 3, 4);
         blocks.item(0, 3, 0, 5);
         blocks.item(0, 3, 1, 11);
@@ -167,7 +168,7 @@ public final class GroupTest {
     private void searchInWholeGroup() {
         octads = new int[759];
         for (int k = 0; k < 759; k++) {
-            octads[k] = blocks.block(1, k);
+            octads[k] = (int) reference.block(1, k);
         }
         int pairs = 5 + random.nextInt(4);
         blocks.drift(1 + random.nextInt(40));

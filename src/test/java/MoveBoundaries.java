@@ -37,7 +37,8 @@ final class MoveBoundaries {
     }
 
     private void numbers() {
-        b.described("There are the permutations 0 to 4 of the points; 0 to 3 can be set, and 4 is the one that retrace() "
+        b.described("There are the permutations 0 to 4 of the points; 0 to 3 can be set, and 4 is the one that "
+            + "retrace() "
             + "found last (the identity at first).");
         for (int m = 0; m < 4; m++) {
             Bench x = new Bench();
@@ -149,7 +150,8 @@ final class MoveBoundaries {
     }
 
     private void texts() {
-        b.described("Its text consists of its cycles of two or more points, ordered by their lowest points: each one is a "
+        b.described("Its text consists of its cycles of two or more points, ordered by their lowest points: each one "
+            + "is a "
             + "left parenthesis, the points from the lowest one on in the order in which they are sent, with commas "
             + "between, and a right parenthesis.");
         String[] tapes = {"(23,22)*(1,0)", "(9,10)", "(5,3,23)*(4)*(2,0)", product(LONGEST),
@@ -178,7 +180,8 @@ final class MoveBoundaries {
     }
 
     private void told() {
-        b.promised(9, "`what`: 0 whether it preserves the code (1 or 0); 1 the number of points that stay; 2 the number of "
+        b.promised(9, "`what`: 0 whether it preserves the code (1 or 0); 1 the number of points that stay; 2 the "
+            + "number of "
             + "its cycles; 3 its order; 4 (24 - the number of its cycles) modulo 2; 5 the number of octads that go to "
             + "themselves; 6 where D goes: 1 to itself, 2 to its complement, 0 otherwise; 7 the number of characters of "
             + "its text");
@@ -221,7 +224,8 @@ final class MoveBoundaries {
     }
 
     private void toldWhereDGoes() {
-        b.promised(9, "`what`: 0 whether it preserves the code (1 or 0); 1 the number of points that stay; 2 the number of "
+        b.promised(9, "`what`: 0 whether it preserves the code (1 or 0); 1 the number of points that stay; 2 the "
+            + "number of "
             + "its cycles; 3 its order; 4 (24 - the number of its cycles) modulo 2; 5 the number of octads that go to "
             + "themselves; 6 where D goes: 1 to itself, 2 to its complement, 0 otherwise; 7 the number of characters of "
             + "its text");

@@ -1,4 +1,5 @@
 import java.math.BigInteger;
+import java.util.Arrays;
 
 /** Each promise: ordinary inputs, the edges that the document names, and wrong inputs. */
 public final class PromiseTest {
@@ -50,7 +51,7 @@ public final class PromiseTest {
         CHECK.due(call, got, want);
     }
 
-    private static int typeAll(EightBlocks x, String text) {
+    private static int typeAll(Bench x, String text) {
         int length = 0;
         for (int k = 0; k < text.length(); k++) {
             length = x.type(text.charAt(k));
@@ -58,7 +59,7 @@ public final class PromiseTest {
         return length;
     }
 
-    private static void dueText(EightBlocks x, int m, String text) {
+    private static void dueText(Bench x, int m, String text) {
         due("the length of the text of " + m, x.told(m, 7), text.length());
         for (int k = 0; k < text.length(); k++) {
             due("letter(" + m + ", " + k + ")", x.letter(m, k), text.charAt(k));
@@ -68,7 +69,7 @@ public final class PromiseTest {
 
     /** Reads into permutation 0 of a new object and tells its text. */
     private static void dueRead(String tape, String text) {
-        EightBlocks x = new EightBlocks();
+        Bench x = new Bench();
         x.type('s');
         typeAll(x, "ame");
         x.read(0);
@@ -81,7 +82,7 @@ public final class PromiseTest {
     }
 
     private static void dueError(String tape, int position) {
-        EightBlocks x = new EightBlocks();
+        Bench x = new Bench();
         typeAll(x, tape);
         due("read of '" + tape + "'", x.read(1), -20 - position);
         due("no change", x.count(1), 0);
@@ -90,7 +91,7 @@ public final class PromiseTest {
     }
 
     private static void newObject() {
-        EightBlocks x = new EightBlocks();
+        Bench x = new Bench();
         due("random number", x.seed(5), 1);
         due("tape", x.type('a'), 1);
         due("changes", x.undo(), -4);
@@ -106,14 +107,14 @@ public final class PromiseTest {
         dueText(x, 2, "(0,23)(1,22)(2,11)(3,15)(4,17)(5,9)(6,19)(7,13)(8,20)(10,16)(12,21)(14,18)");
         dueText(x, 3, "(1,18,4,2,6)(5,21,20,10,7)(8,16,13,9,12)(11,19,22,14,17)");
         dueText(x, 4, "");
-        EightBlocks other = new EightBlocks();
+        Bench other = new Bench();
         other.drift(9);
         due("objects are apart", x.count(1), 0);
         due("objects are apart", x.move(0, 22), 0);
     }
 
     private static void word() {
-        EightBlocks x = new EightBlocks();
+        Bench x = new Bench();
         for (int what = 0; what < 7; what++) {
             for (int set : NO_SETS) {
                 due("word(" + set + ", " + what + ")", x.word(set, what), -1);
@@ -123,6 +124,7 @@ public final class PromiseTest {
             due("word(0, " + what + ")", x.word(0, what), -1);
         }
         for (int n = 0; n < 4096; n += 13) {
+            x = x.renewed();
             due("the number of word " + n, x.word(x.block(0, n), 1), n);
             due("its distance", x.word(x.block(0, n), 2), 0);
             due("itself", x.word(x.block(0, n), 4), x.block(0, n));
@@ -137,16 +139,28 @@ public final class PromiseTest {
         due("word(3, 6)", x.word(3, 6), 77);
         due("word(7, 6)", x.word(7, 6), 21);
         due("word(ALL ^ 255, 5)", x.word(ALL ^ 5279, 5), 30);
-        nearestByTrying(x);
+        nearestByTrying();
     }
 
-    private static void nearestByTrying(EightBlocks x) {
+    private static int[] words() {
+        int[] words = new int[4096];
+        Bench x = new Bench();
+        for (int n = 0; n < 4096; n++) {
+            x = x.renewed();
+            words[n] = x.block(0, n);
+        }
+        return words;
+    }
+
+    private static void nearestByTrying() {
+        int[] words = words();
+        Bench x = new Bench();
         for (int set = 3; set <= ALL; set += 98765) {
+            x = x.renewed();
             int distance = 24;
             int number = 0;
             int lowest = 0;
-            for (int n = 0; n < 4096; n++) {
-                int word = x.block(0, n);
+            for (int word : words) {
                 int away = Integer.bitCount(word ^ set);
                 if (away < distance) {
                     distance = away;
@@ -163,7 +177,7 @@ public final class PromiseTest {
     }
 
     private static void block() {
-        EightBlocks x = new EightBlocks();
+        Bench x = new Bench();
         int[] starts = {5, 7, 10, 11, 14, 15, 17, 19, 20, 21, 22};
         for (int k = 0; k < 12; k++) {
             int basis = 1 << 23;
@@ -178,6 +192,7 @@ public final class PromiseTest {
         for (int what = 1; what < 3; what++) {
             int before = -1;
             for (int k = 0; k < ends[what]; k++) {
+                x = x.renewed();
                 int set = x.block(what, k);
                 due("ascending " + k, set > before ? 1 : 0, 1);
                 due("a word", x.word(set, 2), 0);
@@ -195,7 +210,7 @@ public final class PromiseTest {
     }
 
     private static void complete() {
-        EightBlocks x = new EightBlocks();
+        Bench x = new Bench();
         for (int set : NO_SETS) {
             due("complete(" + set + ")", x.complete(set), -1);
         }
@@ -203,6 +218,7 @@ public final class PromiseTest {
         due("complete(ALL)", x.complete(ALL), -2);
         due("complete(63)", x.complete(63), -2);
         for (int k = 0; k < 759; k += 7) {
+            x = x.renewed();
             int octad = x.block(1, k);
             int five = octad;
             for (int away = 0; away < 3; away++) {
@@ -213,7 +229,7 @@ public final class PromiseTest {
     }
 
     private static void sextet() {
-        EightBlocks x = new EightBlocks();
+        Bench x = new Bench();
         for (int set : NO_SETS) {
             due("sextet(" + set + ", 0)", x.sextet(set, 0), -1);
         }
@@ -242,7 +258,7 @@ public final class PromiseTest {
     }
 
     private static void both() {
-        EightBlocks x = new EightBlocks();
+        Bench x = new Bench();
         for (int set : NO_SETS) {
             due("both(" + set + ", 15)", x.both(set, 15), -1);
             due("both(15, " + set + ")", x.both(15, set), -1);
@@ -268,7 +284,7 @@ public final class PromiseTest {
     }
 
     private static void met() {
-        EightBlocks x = new EightBlocks();
+        Bench x = new Bench();
         for (int set : NO_SETS) {
             due("met(" + set + ", 0)", x.met(set, 0), -1);
         }
@@ -285,7 +301,7 @@ public final class PromiseTest {
     }
 
     private static void move() {
-        EightBlocks x = new EightBlocks();
+        Bench x = new Bench();
         for (int bad : new int[] {-1, MIN, MAX}) {
             due("move(" + bad + ", 0)", x.move(bad, 0), -1);
             due("move(0, " + bad + ")", x.move(0, bad), -1);
@@ -308,7 +324,7 @@ public final class PromiseTest {
     }
 
     private static void told() {
-        EightBlocks x = new EightBlocks();
+        Bench x = new Bench();
         for (int what = 0; what < 8; what++) {
             due("told(-1, " + what + ")", x.told(-1, what), -1);
             due("told(5, " + what + ")", x.told(5, what), -1);
@@ -331,6 +347,7 @@ public final class PromiseTest {
         for (int m = 1; m < 4; m++) {
             int fixed = 0;
             for (int k = 0; k < 759; k++) {
+                x = x.renewed();
                 fixed += x.sent(m, x.block(1, k)) == x.block(1, k) ? 1 : 0;
             }
             due("told(" + m + ", 5)", x.told(m, 5), fixed);
@@ -344,7 +361,7 @@ public final class PromiseTest {
     }
 
     private static void whereChosenGoes() {
-        EightBlocks x = new EightBlocks();
+        Bench x = new Bench();
         int inside = D;
         int outside = ALL ^ D;
         StringBuilder swaps = new StringBuilder();
@@ -372,7 +389,7 @@ public final class PromiseTest {
     }
 
     private static void letter() {
-        EightBlocks x = new EightBlocks();
+        Bench x = new Bench();
         due("letter(-1, 0)", x.letter(-1, 0), -1);
         due("letter(5, 0)", x.letter(5, 0), -1);
         due("letter(0, -1)", x.letter(0, -1), -1);
@@ -386,7 +403,7 @@ public final class PromiseTest {
     }
 
     private static void sent() {
-        EightBlocks x = new EightBlocks();
+        Bench x = new Bench();
         for (int set : NO_SETS) {
             due("sent(0, " + set + ")", x.sent(0, set), -1);
         }
@@ -400,7 +417,7 @@ public final class PromiseTest {
     }
 
     private static void type() {
-        EightBlocks x = new EightBlocks();
+        Bench x = new Bench();
         for (int letter : new int[] {31, 127, -1, 0, MIN, MAX, 128, 255}) {
             due("type(" + letter + ")", x.type(letter), -1);
         }
@@ -446,7 +463,7 @@ public final class PromiseTest {
     }
 
     private static void readErrors() {
-        EightBlocks x = new EightBlocks();
+        Bench x = new Bench();
         for (int m : new int[] {-1, 4, 5, MIN, MAX}) {
             x.type('a');
             due("read(" + m + ")", x.read(m), -1);
@@ -480,7 +497,7 @@ public final class PromiseTest {
     }
 
     private static void readNames() {
-        EightBlocks x = new EightBlocks();
+        Bench x = new Bench();
         typeAll(x, "step*step");
         due("step^2 is elsewhere", x.read(0), 23);
         due("a is as it is now", x.move(0, 0), 2);
@@ -501,7 +518,7 @@ public final class PromiseTest {
     }
 
     private static void group() {
-        EightBlocks x = new EightBlocks();
+        Bench x = new Bench();
         for (int what = 0; what < 5; what++) {
             due("group(-1)", x.group(-1, what), -1);
             due("group(16)", x.group(16, what), -1);
@@ -533,7 +550,7 @@ public final class PromiseTest {
     }
 
     private static void held() {
-        EightBlocks x = new EightBlocks();
+        Bench x = new Bench();
         for (int set : NO_SETS) {
             due("held(0, " + set + ", 0)", x.held(0, set, 0), -1);
         }
@@ -567,7 +584,7 @@ public final class PromiseTest {
         due("without it", x.held(2, 1, 1), 11);
     }
 
-    private static int orbitOf(EightBlocks x, int m, int p) {
+    private static int orbitOf(Bench x, int m, int p) {
         int orbit = 0;
         int q = p;
         for (int k = 0; k < 24; k++) {
@@ -578,7 +595,7 @@ public final class PromiseTest {
     }
 
     private static void holds() {
-        EightBlocks x = new EightBlocks();
+        Bench x = new Bench();
         due("holds(-1, 0)", x.holds(-1, 0), -1);
         due("holds(16, 0)", x.holds(16, 0), -1);
         due("holds(0, -1)", x.holds(0, -1), -1);
@@ -607,7 +624,7 @@ public final class PromiseTest {
     }
 
     private static void choose() {
-        EightBlocks x = new EightBlocks();
+        Bench x = new Bench();
         for (int set : NO_SETS) {
             due("choose(" + set + ")", x.choose(set), -1);
         }
@@ -623,7 +640,7 @@ public final class PromiseTest {
     }
 
     private static void hexad() {
-        EightBlocks x = new EightBlocks();
+        Bench x = new Bench();
         for (int set : NO_SETS) {
             due("hexad(" + set + ")", x.hexad(set), -1);
         }
@@ -646,7 +663,7 @@ public final class PromiseTest {
     }
 
     private static void turn() {
-        EightBlocks x = new EightBlocks();
+        Bench x = new Bench();
         for (int bad : new int[] {-1, 24, MIN, MAX}) {
             due("turn(" + bad + ", 0)", x.turn(bad, 0), -1);
             due("turn(0, " + bad + ")", x.turn(0, bad), -1);
@@ -657,6 +674,7 @@ public final class PromiseTest {
         due("the same", x.turn(0, 0), -2);
         due("turn(0, 1)", x.turn(0, 1), 3719200);
         for (int k = 0; k < 2576; k += 400) {
+            x = new Bench();
             x.choose(x.block(2, k));
             int chosen = x.count(0);
             for (int p = 0; p < 24; p++) {
@@ -674,7 +692,7 @@ public final class PromiseTest {
     }
 
     private static void pair() {
-        EightBlocks x = new EightBlocks();
+        Bench x = new Bench();
         for (int set : NO_SETS) {
             due("pair(" + set + ")", x.pair(set), -1);
         }
@@ -683,6 +701,7 @@ public final class PromiseTest {
         due("pair(4213920)", x.pair(4213920), 12);
         int hexads = 0;
         for (int set = D; set > 0; set = set - 1 & D) {
+            x = x.renewed();
             hexads += x.pair(set) == -2 ? 0 : 1;
         }
         due("the number of hexads", hexads, 132);
@@ -691,36 +710,34 @@ public final class PromiseTest {
     }
 
     private static void drift() {
-        EightBlocks x = new EightBlocks();
+        Bench x = new Bench();
         for (int n : new int[] {0, -1, 41, MIN, MAX}) {
             due("drift(" + n + ")", x.drift(n), -1);
         }
         due("no change", x.count(1), 0);
         for (int v : new int[] {0, 1, 77, 123456789, MAX}) {
-            x.seed(v);
-            for (int k = 0; k < 40; k++) {
-                int[][] before = moves(x);
-                int chosen = x.count(0);
-                int r = x.seed(0);
-                x.seed(r);
-                long next = BigInteger.valueOf(r).multiply(BigInteger.valueOf(1103515245))
-                    .add(BigInteger.valueOf(12345)).mod(BigInteger.valueOf(1L << 31)).longValueExact();
-                int high = (int) (next / 65536);
-                int got = x.drift(1);
-                due("r", x.seed(0), next);
-                x.seed((int) next);
+            Bench turning = new Bench();
+            turning.seed(v);
+            int[][] rows = rows(turning);
+            int chosen = D;
+            int r = v;
+            for (int k = 0; k < 14; k++) {
+                int high = next(r) / 65536;
+                r = next(r);
                 int y = high / 8;
-                due("D", got, high % 8 == 0 ? x.block(2, y % 2576) : chosen);
-                for (int m = 0; m < 5; m++) {
-                    for (int p = 0; p < 24; p++) {
-                        boolean isTurned = high % 8 != 0 && m == high % 4;
-                        due("move", x.move(m, p), isTurned ? before[y % 5][before[m][p]] : before[m][p]);
-                    }
+                chosen = high % 8 == 0 ? turning.block(2, y % 2576) : chosen;
+                due("D", turning.drift(1), chosen);
+                if (high % 8 != 0) {
+                    int[] first = rows[high % 4];
+                    int[] then = rows[y % 5];
+                    rows[high % 4] = Arrays.stream(first).map(p -> then[p]).toArray();
                 }
+                due("the permutations", Arrays.deepEquals(rows(turning), rows) ? 1 : 0, 1);
             }
+            due("r", turning.seed(0), r);
         }
-        EightBlocks one = new EightBlocks();
-        EightBlocks many = new EightBlocks();
+        Bench one = new Bench();
+        Bench many = new Bench();
         for (int k = 0; k < 40; k++) {
             one.drift(1);
         }
@@ -732,18 +749,21 @@ public final class PromiseTest {
         due("changes", many.count(1), 6);
     }
 
-    private static int[][] moves(EightBlocks x) {
-        int[][] moves = new int[5][24];
+    private static int next(int r) {
+        return BigInteger.valueOf(r).multiply(BigInteger.valueOf(1103515245)).add(BigInteger.valueOf(12345))
+            .mod(BigInteger.valueOf(1L << 31)).intValueExact();
+    }
+
+    private static int[][] rows(Bench x) {
+        int[][] rows = new int[5][];
         for (int m = 0; m < 5; m++) {
-            for (int p = 0; p < 24; p++) {
-                moves[m][p] = x.move(m, p);
-            }
+            rows[m] = x.row(m);
         }
-        return moves;
+        return rows;
     }
 
     private static void undo() {
-        EightBlocks x = new EightBlocks();
+        Bench x = new Bench();
         due("undo()", x.undo(), -4);
         x.choose(x.block(2, 5));
         x.seed(99);
@@ -777,7 +797,7 @@ public final class PromiseTest {
     }
 
     private static void seed() {
-        EightBlocks x = new EightBlocks();
+        Bench x = new Bench();
         due("seed(-1)", x.seed(-1), -1);
         due("seed(MIN)", x.seed(MIN), -1);
         due("seed(0)", x.seed(0), 1);
@@ -787,7 +807,7 @@ public final class PromiseTest {
     }
 
     private static void count() {
-        EightBlocks x = new EightBlocks();
+        Bench x = new Bench();
         for (int what : new int[] {-1, 4, MIN, MAX}) {
             due("count(" + what + ")", x.count(what), -1);
         }
@@ -803,7 +823,7 @@ public final class PromiseTest {
     }
 
     private static void image() {
-        EightBlocks x = new EightBlocks();
+        Bench x = new Bench();
         due("restore()", x.restore(), -4);
         x.choose(x.block(2, 5));
         x.seed(31);
@@ -841,7 +861,7 @@ public final class PromiseTest {
     }
 
     private static void retrace() {
-        EightBlocks x = new EightBlocks();
+        Bench x = new Bench();
         x.sheet(0, 3, 32);
         due("point 0 stays", x.retrace(15, 0, 3, 0, 8), 10200960);
         due("the identity is lowest", x.told(4, 7), 0);
@@ -872,7 +892,7 @@ public final class PromiseTest {
     }
 
     private static void retraceErrors() {
-        EightBlocks x = new EightBlocks();
+        Bench x = new Bench();
         due("NULL", x.retrace(15, 0, 3, 0, 1), -11);
         due("BAD", x.retrace(16, 0, 3, 0, 1), -1);
         due("BAD", x.retrace(-1, 0, 3, 0, 1), -1);
@@ -910,7 +930,7 @@ public final class PromiseTest {
     }
 
     private static void film() {
-        EightBlocks x = new EightBlocks();
+        Bench x = new Bench();
         due("NULL", x.film(0, 0, 0, 0), -11);
         due("BAD", x.film(5, 0, 0, 0), -1);
         due("BAD", x.film(-1, 0, 0, 0), -1);
@@ -935,7 +955,7 @@ public final class PromiseTest {
     }
 
     private static void sheet() {
-        EightBlocks x = new EightBlocks();
+        Bench x = new Bench();
         for (int bad : new int[] {-1, 4, MIN, MAX}) {
             due("sheet(" + bad + ", 0, 1)", x.sheet(bad, 0, 1), -1);
             due("sheet(0, " + bad + ", 1)", x.sheet(0, bad, 1), -1);
@@ -962,7 +982,7 @@ public final class PromiseTest {
     }
 
     private static void item() {
-        EightBlocks x = new EightBlocks();
+        Bench x = new Bench();
         for (int bad : new int[] {-1, 4, MIN, MAX}) {
             due("BAD", x.item(bad, 0, 0, 0), -1);
             due("BAD", x.item(0, bad, 0, 0), -1);
@@ -987,7 +1007,7 @@ public final class PromiseTest {
     }
 
     private static void copy() {
-        EightBlocks x = new EightBlocks();
+        Bench x = new Bench();
         x.sheet(0, 0, 6);
         x.sheet(1, 0, 4);
         x.sheet(2, 1, 4);
@@ -1017,7 +1037,7 @@ public final class PromiseTest {
     }
 
     /** Tells the elements of sheet 0 by the pairs that retrace() takes from it. */
-    private static void dueItems(EightBlocks x, int... items) {
+    private static void dueItems(Bench x, int... items) {
         typeAll(x, "step");
         x.read(0);
         for (int k = 0; k + 1 < items.length; k++) {

@@ -5,10 +5,14 @@ import java.lang.reflect.Modifier;
 import java.nio.file.Files;
 import java.nio.file.Path;
 import java.util.ArrayDeque;
+import java.util.ArrayList;
 import java.util.Arrays;
 import java.util.Collections;
 import java.util.IdentityHashMap;
+import java.util.List;
+import java.util.Map;
 import java.util.Set;
+import java.util.TreeMap;
 import java.util.TreeSet;
 import java.util.regex.Matcher;
 import java.util.regex.Pattern;
@@ -24,6 +28,7 @@ public final class RuleTest {
         String source = withoutComments(Files.readString(SOURCE));
         words(source);
         lengths(source);
+        depths(source);
         room();
         calls();
         CHECK.end();
@@ -130,6 +135,35 @@ public final class RuleTest {
             }
         }
         CHECK.due("all methods end", start, -1);
+    }
+
+    /** Calls go at most eight deep; those that come back to an open method are not counted again. */
+    private static void depths(String source) {
+        Map<String, String> bodies = new TreeMap<>();
+        String head = "^( {4}| {8})\\w[\\w \\[\\]]*?(\\w+)\\([^()]*\\) \\{$";
+        Matcher method = Pattern.compile("(?ms)" + head + "(.*?)^\\1\\}$").matcher(source);
+        while (method.find()) {
+            bodies.merge(method.group(2), method.group(3), String::concat);
+        }
+        CHECK.due("methods are found", bodies.size() > 100 ? 1 : 0, 1);
+        for (String name : bodies.keySet()) {
+            List<String> deepest = deepest(name, bodies, new ArrayList<>());
+            CHECK.due("calls from " + deepest, deepest.size() <= 8 ? 1 : 0, 1);
+        }
+    }
+
+    private static List<String> deepest(String name, Map<String, String> bodies, List<String> open) {
+        open.add(name);
+        List<String> deepest = new ArrayList<>(open);
+        Matcher call = Pattern.compile("(\\w+)\\(").matcher(bodies.get(name));
+        while (call.find()) {
+            if (bodies.containsKey(call.group(1)) && !open.contains(call.group(1))) {
+                List<String> deeper = deepest(call.group(1), bodies, open);
+                deepest = deeper.size() > deepest.size() ? deeper : deepest;
+            }
+        }
+        open.remove(open.size() - 1);
+        return deepest;
     }
 
     /** What an object consists of: all must fit in the room of a run. */

@@ -97,7 +97,8 @@ final class SheetBoundaries {
     }
 
     private void indices() {
-        b.described("INDEX is also returned if no element is accessed, but an index is negative or greater than the length.");
+        b.described("INDEX is also returned if no element is accessed, but an index is negative or greater than the "
+            + "length.");
         for (int n : new int[] {0, 1, 5, 32}) {
             Bench x = new Bench();
             x.sheet(0, 0, n);
@@ -178,7 +179,8 @@ final class SheetBoundaries {
         dueElements("zeros", z, 0, 3, 0, new int[6]);
         b.due("an empty one", z.sheet(0, 3, 0), 0);
         b.due("it exists", z.drop(0), 0);
-        b.promised(29, "`sheet`: the sheet, 0 to 3", "`lane`: its lane, 0 to 3", "`n`: the number of elements, at most 32",
+        b.promised(29, "`sheet`: the sheet, 0 to 3", "`lane`: its lane, 0 to 3", "`n`: the number of elements, at "
+            + "most 32",
             "BAD if sheet or lane is out of range or n is above 32");
         for (int k = 0; k < 4; k++) {
             b.due("the longest sheet " + k, new Bench().sheet(k, 3 - k, 32), 32);
@@ -259,7 +261,8 @@ final class SheetBoundaries {
     }
 
     private void itemErrors() {
-        b.promised(31, "`sheet`: the sheet, 0 to 3", "`lane`: its lane, 0 to 3", "BAD if sheet or lane is out of range");
+        b.promised(31, "`sheet`: the sheet, 0 to 3", "`lane`: its lane, 0 to 3", "BAD if sheet or lane is out of "
+            + "range");
         b.dueForEach("sheet", Boundaries.outside(0, 3), -1, (x, v) -> x.item(v, 0, 0, 0L));
         b.dueForEach("lane", Boundaries.outside(0, 3), -1, (x, v) -> x.item(0, v, 0, 0L));
         for (int k = 0; k < 4; k++) {
@@ -281,7 +284,8 @@ final class SheetBoundaries {
     }
 
     private void copy() {
-        b.promised(32, "Copies n elements from one sheet to another one, or within one sheet, as if they were first copied to "
+        b.promised(32, "Copies n elements from one sheet to another one, or within one sheet, as if they were first "
+            + "copied to "
             + "a temporary array.", "Returns n");
         for (int lane = 0; lane < 4; lane++) {
             Bench x = counting(0, lane, 5);
@@ -309,7 +313,8 @@ final class SheetBoundaries {
     }
 
     private void copyWithinOne() {
-        b.promised(32, "Copies n elements from one sheet to another one, or within one sheet, as if they were first copied to "
+        b.promised(32, "Copies n elements from one sheet to another one, or within one sheet, as if they were first "
+            + "copied to "
             + "a temporary array.");
         Bench up = counting(0, 0, 6);
         b.due("up by one", up.copy(0, 0, 0, 1, 5), 5);
@@ -376,7 +381,8 @@ final class SheetBoundaries {
         for (int[] row : right) {
             Bench x = counting(0, 1, 5);
             x.sheet(1, 1, 3);
-            b.due("copy(0, " + row[0] + ", 1, " + row[1] + ", " + row[2] + ")", x.copy(0, row[0], 1, row[1], row[2]), row[2]);
+            String call = "copy(0, " + row[0] + ", 1, " + row[1] + ", " + row[2] + ")";
+            b.due(call, x.copy(0, row[0], 1, row[1], row[2]), row[2]);
         }
         Bench empty = new Bench();
         empty.sheet(0, 0, 0);

@@ -46,7 +46,8 @@ final class TextBoundaries {
     }
 
     private void tape() {
-        b.described("A permutation can be read from a tape of at most 100 characters, which is empty at first, with this "
+        b.described("A permutation can be read from a tape of at most 100 characters, which is empty at first, with "
+            + "this "
             + "grammar: product = factor { \"*\" factor } factor = ( name | cycle | \"[\" product \"]\" ) "
             + "[ \"^\" [ \"-\" ] number ] cycle = \"(\" point { \",\" point } \")\" The factors of a product are applied "
             + "from the left to the right.");
@@ -88,7 +89,8 @@ final class TextBoundaries {
     }
 
     private void names() {
-        b.described("The names are step, twice, over, wild, same (the identity) and a to e (the permutations 0 to 4 as they "
+        b.described("The names are step, twice, over, wild, same (the identity) and a to e (the permutations 0 to 4 "
+            + "as they "
             + "are now).");
         String[] names = {"step", "twice", "over", "wild", "same"};
         for (int m = 0; m < 5; m++) {
@@ -191,7 +193,8 @@ final class TextBoundaries {
     }
 
     private void errors() {
-        b.described("The error position is the index of the first character that is not allowed at its place, where a run "
+        b.described("The error position is the index of the first character that is not allowed at its place, where "
+            + "a run "
             + "of letters (a to z) or a run of digits counts as a whole, and any other character alone: if a run is not a "
             + "name, or not such a number or point, the position is that of its first character.");
         String[] tapes = {"*", "^2", "-a", ")", "]", "2", ",", "a**b", "a*^2", "a b", "a(0,1)", "a[b]", "a2", "a,b", "a)",
