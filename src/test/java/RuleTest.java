@@ -203,15 +203,18 @@ public final class RuleTest {
     private static void calls() {
         com.sun.management.ThreadMXBean threads =
             (com.sun.management.ThreadMXBean) java.lang.management.ManagementFactory.getThreadMXBean();
-        EightBlocks blocks = new EightBlocks();
-        everyCall(blocks);
+        everyCall(new EightBlocks());
+        EightBlocks[] objects = {new EightBlocks(), new EightBlocks(), new EightBlocks(), new EightBlocks()};
         long id = Thread.currentThread().getId();
         long before = threads.getThreadAllocatedBytes(id);
-        for (int k = 0; k < 20; k++) {
-            everyCall(blocks);
+        for (EightBlocks blocks : objects) {
+            // Some 90 calls each time: an object is used for at most 512.
+            for (int k = 0; k < 5; k++) {
+                everyCall(blocks);
+            }
         }
         long bytes = threads.getThreadAllocatedBytes(id) - before;
-        System.out.println("RuleTest: 1000 calls made " + bytes + " bytes");
+        System.out.println("RuleTest: some 1700 calls made " + bytes + " bytes");
         CHECK.due("calls make nothing", bytes < 4000 ? 1 : 0, 1);
     }
 
