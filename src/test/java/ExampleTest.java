@@ -44,7 +44,7 @@ public final class ExampleTest {
         }
     }
 
-    private static long call(EightBlocks blocks, String name, String arguments) throws Exception {
+    static long call(EightBlocks blocks, String name, String arguments) throws Exception {
         String[] texts = arguments.isBlank() ? new String[0] : arguments.split(",");
         for (Method method : EightBlocks.class.getMethods()) {
             if (method.getName().equals(name) && method.getParameterCount() == texts.length) {

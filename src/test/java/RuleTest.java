@@ -102,7 +102,7 @@ public final class RuleTest {
     private static void words(String source) {
         String[] forbidden = {"\\bthrow\\b", "\\bthrows\\b", "\\btry\\b", "\\bcatch\\b", "\\bfinally\\b",
             "\\bsynchronized\\b", "\\bassert\\b", "\\bvolatile\\b", "\\bnative\\b", "->", "::", "\\bstatic\\s*\\{",
-            "\\bprotected\\b", "\\bpackage\\b", "\\bobject\\b", "\\bSystem\\.(?!arraycopy)", "\\bThread\\b", "\\bRandom\\b",
+            "\\bprotected\\b", "\\bpackage\\b", "\\bObject\\b", "\\bSystem\\.(?!arraycopy)", "\\bThread\\b", "\\bRandom\\b",
             "\\bMath\\.\\w+Exact\\b", "\\bDouble\\b", "\\bLong\\.valueOf\\b", "\\bhashCode\\b", "\\btoString\\b",
             "\\bwhile\\s*\\(true\\)", "\\bfor\\s*\\(;;\\)", "[^\\x00-\\x7f]"};
         for (String word : forbidden) {
